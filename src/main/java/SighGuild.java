@@ -967,33 +967,39 @@ public final class SighGuild {
         if (left <= 0 || left > MOST_TURNS) {
             return 0;
         }
-        int best = strikeTurn(left);
+        int best = strikeTurn(left, 0);
         for (int i = 0; i < roll.sighers; i++) {
             for (int o = 0; o < roll.orders; o++) {
                 if (aside.isAble(roll, i, o)) {
-                    best = Math.max(best, goldOfTurn(i, o, left));
+                    best = Math.max(best, goldOfTurn(i, o, left, best));
                 }
             }
         }
         return best;
     }
 
-    private int goldOfTurn(int i, int o, int left) {
+    /** The GOLD by an ORDER and what follows; it need not be told truly where it is no more than the best. */
+    private int goldOfTurn(int i, int o, int left, int best) {
+        int gold = roll.goldFor(i, o);
+        if (left <= 1) {
+            return gold;
+        }
         int breath = aside.breath[i];
         int done = aside.done;
         aside.sighOrder(roll, i, o);
-        int gold = roll.goldFor(i, o) + strikeTurn(left);
+        gold += strikeTurn(left, best - gold);
         aside.breath[i] = breath;
         aside.done = done;
         return gold;
     }
 
-    private int strikeTurn(int left) {
+    /** Once the guild is left with no more than enough, a better strike is not looked for. */
+    private int strikeTurn(int left, int enough) {
         if (left <= 1) {
             return 0;
         }
         int least = guildTurn(left - 1);
-        for (int i = 0; i < roll.sighers; i++) {
+        for (int i = 0; i < roll.sighers && least > enough; i++) {
             int breath = aside.breath[i];
             aside.breath[i] = 0;
             least = Math.min(least, guildTurn(left - 1));

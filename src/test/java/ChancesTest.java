@@ -24,6 +24,8 @@ public final class ChancesTest {
         c.due("35 GOLD more than now", g.strike(1), 8);
         SighGuild alone = Check.guildOf("s90 o019 o018");
         c.due("35 a SIGHER alone is struck", alone.strike(2), 9);
+        SighGuild second = Check.guildOf("s00 s90 o019 o028");
+        c.due("35 whichever it is", second.strike(2), 9);
         SighGuild forger = Check.guildOf("f90 o019 o018");
         c.due("35 a FORGER needs none", forger.strike(2), 8);
         SighGuild two = Check.guildOf("s90 s20 o019 o028 o037");

@@ -77,6 +77,11 @@ public final class DeedsTest {
         c.due("18 undo(39)", g.undo(39), 1);
         c.due("17 rest(0) in the last place", g.rest(0), 5);
         c.refused(g, "17 rest(0)", Check.FULL, () -> g.rest(0));
+        g.undo(38);
+        c.due("17 rest(0)", g.rest(0), 5);
+        c.due("16 sigh(0, 1) in the last place", g.sigh(0, 1), 1);
+        g.undo(39);
+        c.due("15 walk(0, 9) in the last place", g.walk(0, 9), 9);
     }
 
     private static void bad() {
@@ -122,6 +127,31 @@ public final class DeedsTest {
         c.refused(none, "18 undo(1) without a guild", Check.BAD, () -> none.undo(1));
     }
 
+    /** What was kept stays, whatever is done in its stead. */
+    private static void otherDeeds() {
+        SighGuild g = Check.guildOf(SighersTest.FIVE);
+        g.walk(0, 5);
+        g.sigh(0, 5);
+        c.due("19 keep(1)", g.keep(1), 2);
+        g.undo(0);
+        g.rest(1);
+        g.walk(3, 9);
+        g.sigh(3, 2);
+        c.due("19 keep(0)", g.keep(0), 3);
+        c.due("20 on(1)", g.on(1), 2);
+        c.due("20 GOLD", g.count(3), 8);
+        c.due("20 done", g.count(4), 32);
+        c.told(g, "20 the PLACE", g.sigher(0, 3), 5);
+        c.told(g, "20 the PLACE", g.sigher(3, 3), 0);
+        c.due("20 on(0)", g.on(0), 3);
+        c.due("20 GOLD", g.count(3), 5);
+        c.told(g, "20 BREATH", g.sigher(1, 1), 2);
+        c.due("18 undo(1)", g.undo(1), 2);
+        c.told(g, "18 BREATH", g.sigher(1, 1), 2);
+        c.due("11 guild(0)", g.guild(0), 6);
+        c.due("11 kept GUILDS go", g.count(10), 0);
+    }
+
     private static void keepAndOn() {
         SighGuild none = new SighGuild();
         c.refused(none, "19 keep(0) without a guild", Check.STATE, () -> none.keep(0));
@@ -153,6 +183,7 @@ public final class DeedsTest {
         c.due("19 keep(2) over another", g.keep(2), 3);
         c.due("20 on(2)", g.on(2), 3);
         c.found(g, "20 on(1)", Check.NOTHING, () -> g.on(1));
+        otherDeeds();
         for (int k : new int[] {-1, 3, Integer.MAX_VALUE, Integer.MIN_VALUE}) {
             c.refused(g, "19 keep(" + k + ")", Check.BAD, () -> g.keep(k));
             c.refused(g, "20 on(" + k + ")", Check.BAD, () -> g.on(k));

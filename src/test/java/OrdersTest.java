@@ -68,6 +68,14 @@ public final class OrdersTest {
         c.ints(h, 0, -9, 0, -9);
         c.due("24 most(0)", h.most(0), 3);
         c.ints(h, 0, 0, 0, 0);
+        SighGuild back = Check.guildOf("s20 o025 o013 o023");
+        c.due("23 one of three", back.give(0), 5);
+        c.ints(back, 0, 0, -9, -9);
+        SighGuild second = Check.guildOf("s00 m90 o019");
+        c.due("23 by the second alone", second.give(0), 11);
+        c.ints(second, 0, 1);
+        c.due("24 by the second alone", second.most(0), 1);
+        c.ints(second, 0, 1);
         SighGuild i = Check.guildOf("s90s90s90s90s90 o019o019o019o019o019o019");
         c.due("23 all have all", i.give(2), 54);
         c.ints(i, 2, 0, 0, 0, 0, 0, 0);

@@ -30,6 +30,8 @@ public final class RoundsTest {
         way(g, 0b00100, 4);
         way(g, 0, 0);
         way(g, 0b00011, 4);
+        way(g, 0b01001, 8);
+        way(g, 0b01010, 4);
         g.walk(0, 6);
         way(g, 0b01100, 10);
         way(g, 0b00101, 6);

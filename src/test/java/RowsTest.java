@@ -141,6 +141,9 @@ public final class RowsTest {
         c.told(g, "7 mean of least ones", g.mean(4), Integer.MIN_VALUE);
         Check.lay(g, 4, 77);
         c.told(g, "7 mean of one", g.mean(4), 77);
+        g.row(4, 40);
+        g.lay(4, 39, 79);
+        c.told(g, "7 mean of forty", g.mean(4), 1);
         g.row(3, 0);
         c.found(g, "7 mean of none", Check.NOUGHT, () -> g.mean(3));
         c.found(g, "7 mean of a missing one", Check.NOTHING, () -> g.mean(0));

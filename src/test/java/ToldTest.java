@@ -135,6 +135,10 @@ public final class ToldTest {
     private static void digest() {
         long empty = fold(17, 0, 0, 0, 0, 0, 0, 0, 0, 0, 0, 0, -1, -1, -1, -1, -1, -1, -1, -1, -1, -1, -1, -1, -1);
         c.due("45 digest() of a new object", new SighGuild().digest(), empty);
+        SighGuild two = Check.guildOf("s12o345o678");
+        c.due("45 digest() of two ORDERS", two.digest(), fold(17, 1, 2, 0, 0, 0, 1, 0, 0, 0, 1, 0,
+                0, 1, 2, 0, 0, 3, 4, 5, 0, 0, 6, 7, 8, 0, 0, -1, -1, -1, -1, -1, -1, -1, -1, -1,
+                11, 's', '1', '2', 'o', '3', '4', '5', 'o', '6', '7', '8', -1, -1, -1));
         SighGuild g = Check.guildOf("m57 f02o039");
         Check.lay(g, 1, 70, -8);
         g.row(4, 0);
