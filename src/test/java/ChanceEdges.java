@@ -58,6 +58,8 @@ final class ChanceEdges {
     private void strikeTurn() {
         e.limits("strike(n)", Edge.of("s90 s90 o019 o018"), SighGuild::strike, 0, 2, n -> new int[] {0, 9, 17}[n]);
         strike("s90 o019 o018", 0, 9, 9);
+        strike("s30 o031 o039", 0, 9, 9);
+        strike("s30 s30 o031 o039 o038", 0, 9, 9);
         strike("s90 s20 o019 o028", 0, 9, 17);
         strike("s90 s10 o019 o028", 0, 9, 17);
         strike("s90 f00 o019 o018", 0, 9, 13);

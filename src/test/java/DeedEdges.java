@@ -321,6 +321,21 @@ final class DeedEdges {
         e.told("BREATH", g, g.sigher(0, 1), 7);
         e.due("on(0) again", g.on(0), 2);
         e.told("BREATH", g, g.sigher(0, 1), 9);
+        SighGuild other = Edge.of("s80 f00 o015 o324", x -> x.sigh(0, 0), x -> x.walk(0, 4), x -> x.keep(1),
+                x -> x.undo(0), x -> x.walk(1, 3), x -> x.sigh(1, 1), x -> x.rest(0), x -> x.keep(2), x -> x.undo(0),
+                x -> x.walk(0, 9)).get();
+        e.due("on(1) behind other DEEDS", other.on(1), 2);
+        e.due("GOLD", other.count(3), 5);
+        e.due("done", other.count(4), 1);
+        e.told("the PLACE", other, other.sigher(0, 3), 4);
+        e.due("on(2) behind other DEEDS", other.on(2), 3);
+        e.due("GOLD", other.count(3), 2);
+        e.due("done", other.count(4), 2);
+        e.due("BREATH", other.count(5), 9);
+        e.told("the PLACE", other, other.sigher(0, 3), 0);
+        e.due("undo(1)", other.undo(1), 2);
+        e.told("the PLACE", other, other.sigher(1, 3), 3);
+        e.due("GOLD", other.count(3), 0);
         SighGuild full = walked(TWO, 40).get();
         full.keep(1);
         full.undo(0);

@@ -16,6 +16,8 @@ import java.util.regex.Pattern;
 final class Edge {
     static final int TERMS = 0;
     static final int PROMISES = 45;
+    /** The part "What it is", which tells how often an object is used. */
+    static final int HEAD = PROMISES + 1;
     private static final Pattern BOUNDARY = Pattern.compile("\\b(BAD|FULL|STATE|SPENT|FINDING|NONE|NOTHING|BEYOND|UNLIKE"
             + "|NOUGHT|SIZE)\\b|\\.\\.| to \\d|\\b(above|below|at most|at least|at first|missing|anew|cut|last|latest|before"
             + "|too|behind|none|nothing|fewest|alone|modulo|least|greatest|most|also|perhaps|either|no)\\b");
@@ -34,8 +36,8 @@ final class Edge {
     }
 
     final Check c = new Check();
-    private final String[] parts = new String[PROMISES + 1];
-    private final boolean[][] quoted = new boolean[PROMISES + 1][];
+    private final String[] parts = new String[HEAD + 1];
+    private final boolean[][] quoted = new boolean[HEAD + 1][];
     private String about = "";
 
     Edge(Path document) throws IOException {
@@ -44,7 +46,8 @@ final class Edge {
         for (int p = 1; p <= PROMISES; p++) {
             parts[p] = partOf(all, "## Promise " + p + ":");
         }
-        for (int p = 0; p <= PROMISES; p++) {
+        parts[HEAD] = partOf(all, "## What it is\n");
+        for (int p = 0; p <= HEAD; p++) {
             quoted[p] = new boolean[parts[p].length()];
             quoteNames(p);
         }

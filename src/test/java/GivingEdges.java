@@ -79,6 +79,8 @@ final class GivingEdges {
         give("s90 o010", 0, NONE);
         give("s90 o010 o011 o010", 1, NONE, 0, NONE);
         give("s20 o012 o012 o012", 4, NONE, 0, 0);
+        give("s20 o025 o024 o024", 5, 0, NONE, NONE);
+        give("s20 s20 o025 o024 o024 o023", 9, 0, NONE, 1, NONE);
         give("s10 s10 o012 o012", 4, 0, 1);
         give("s10 s10 o012 o012 o012", 4, NONE, 0, 1);
         give("s10 s20 o012 o022", 4, 0, 1);

@@ -104,6 +104,12 @@ final class RoundEdges {
         dusk("a90 o049 o039", 30, 9, 1);
         dusk("p90 o079 o069", 30, 8, 1);
         dusk("f00 o099", 30, 4, 0);
+        SighGuild kinds = Check.guildOf("s90 f01 p62 a33 m44 o099 o069 o049 o039");
+        dusk(kinds, 0, 30, 18, 1, 3);
+        dusk(kinds, 1, 30, 16, 0, 1, 2, 3);
+        dusk(kinds, 2, 30, 8, 1);
+        dusk(kinds, 3, 30, 9, 3);
+        dusk(kinds, 4, 30, 22, 1, 3);
         dusk("s50 o023 o034", 30, 7, 0, 1);
         dusk("s40 o023 o034", 30, 4, 1);
     }

@@ -51,6 +51,8 @@ final class TermEdges {
 
     static void all(Edge e) {
         TermEdges t = new TermEdges(e);
+        e.says(Edge.HEAD, "An object is used for at most 512 calls after it has been made; what later calls answer "
+                + "is free.", t::lastCall);
         e.says(Edge.TERMS, "Refused is, the first of these that fits, in this order: BAD -1 (a number that is none, "
                 + "or not as told), FULL -2, STATE -4 (not now), SPENT -6 (more than told), FINDING -3 (finding() tells "
                 + "which), unless a call says so otherwise.", t::order);
@@ -68,6 +70,33 @@ final class TermEdges {
 
     private void no(String call, int answer, Edge.Call refused) {
         e.refused(call, state, answer, refused);
+    }
+
+    /** The 512th call is as good as the first; those behind it may answer anything, but do end. */
+    private void lastCall() {
+        SighGuild bad = new SighGuild();
+        for (int k = 1; k <= 510; k++) {
+            bad.at(0, 0);
+        }
+        e.due("call 511", bad.at(0, 0), Check.FINDING);
+        e.due("call 512", bad.findings(NOTHING), 511);
+        SighGuild busy = Check.guildOf("s00o319");
+        int used = 1 + 7 + 1;
+        while (used < 510) {
+            busy.walk(0, 3);
+            busy.undo(0);
+            used += 2;
+        }
+        int left = 512 - used;
+        for (int k = 1; k < left; k++) {
+            busy.walk(0, 2 + k);
+        }
+        e.due("call 512", busy.walk(0, 9), 9 - (left > 1 ? 1 + left : 0));
+        for (int k = 0; k < 100; k++) {
+            busy.lots(20, 7);
+            busy.undo(0);
+            busy.digest();
+        }
     }
 
     private void order() {
