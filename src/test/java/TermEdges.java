@@ -80,18 +80,16 @@ final class TermEdges {
         }
         e.due("call 511", bad.at(0, 0), Check.FINDING);
         e.due("call 512", bad.findings(NOTHING), 511);
-        SighGuild busy = Check.guildOf("s00o319");
-        int used = 1 + 7 + 1;
-        while (used < 510) {
+        String text = "s00o319";
+        SighGuild busy = Check.guildOf(text);
+        int used = 1 + text.length() + 1;
+        while (used < 511) {
             busy.walk(0, 3);
             busy.undo(0);
             used += 2;
         }
-        int left = 512 - used;
-        for (int k = 1; k < left; k++) {
-            busy.walk(0, 2 + k);
-        }
-        e.due("call 512", busy.walk(0, 9), 9 - (left > 1 ? 1 + left : 0));
+        e.due("calls ahead of the last", used, 511);
+        e.due("call 512", busy.walk(0, 9), 9);
         for (int k = 0; k < 100; k++) {
             busy.lots(20, 7);
             busy.undo(0);
