@@ -15,7 +15,7 @@ final class ChanceEdges {
 
     static void all(Edge e) {
         ChanceEdges t = new ChanceEdges(e);
-        e.says(35, "lets a SIGHER do an ORDER that it CAN do, or none", t::guildTurn);
+        e.says(35, "By turns the guild lets a SIGHER do an ORDER that it CAN do, or none", t::guildTurn);
         e.says(35, "then a strike takes all BREATH of a SIGHER, or of none, n (0 .. 2) times each", t::strikeTurn);
         e.says(35, "GOLD more than now, the guild wanting much, the strike little.", t::moreThanNow);
         e.says(35, "BAD; STATE: no SIGHERS.", t::strikeRefused);
@@ -24,10 +24,11 @@ final class ChanceEdges {
         e.says(36, "BAD; STATE: no SIGHERS.", t::oddsRefused);
         e.says(37, "The mean of that GOLD: 1.", t::mid);
         e.says(37, "BAD; STATE: no SIGHERS.", t::midRefused);
-        e.says(Edge.TERMS, "in lowest terms, the lower number above 0 (0 by 1)", t::lowestTerms);
-        e.says(Edge.TERMS, "LOTS: a number comes from the one ahead by 48271 times it modulo 2147483647, "
+        e.says(Edge.TERMS, "Chances, means are told by upper(), lower(), in lowest terms, the lower number above 0 (0 by 1).",
+                t::lowestTerms);
+        e.says(Edge.TERMS, "======== 3 LOTS: a number comes from the one ahead by 48271 times it modulo 2147483647, "
                 + "the first from a seed (1 .. 2147483646).", t::numbers);
-        e.says(38, "n (1 .. 20) DEEDS truly by LOTS of a seed", t::lotsAreDeeds);
+        e.says(38, "n (1 .. 20) DEEDS truly by LOTS of a seed: for each a number", t::lotsAreDeeds);
         e.says(38, "SIGHER it modulo how many there are, ORDER it by 64, cut, modulo how many there are", t::whichOfThem);
         e.says(38, "if it by 8, cut, modulo 4 is 0, it RESTS (BREATH 9 at most)", t::lotRests);
         e.says(38, "else it SIGHS that, if it CAN and is there; else it WALKS to its PLACE (also if it is there): "

@@ -1,3 +1,6 @@
+import java.util.List;
+import java.util.function.Supplier;
+
 /** Promises 35 to 38, 40, 41. */
 public final class ChancesTest {
     private static final Check c = new Check();
@@ -78,28 +81,28 @@ public final class ChancesTest {
 
     private static void refusals() {
         SighGuild none = new SighGuild();
-        SighGuild g = Check.guildOf("f00 o014 o013");
-        g.odds(1, 4);
+        Supplier<SighGuild> told = Edge.of("f00 o014 o013", g -> g.odds(1, 4));
         c.refused(none, "35 strike(0) without a guild", Check.STATE, () -> none.strike(0));
         c.refused(none, "36 odds(0, 0) without a guild", Check.STATE, () -> none.odds(0, 0));
         c.refused(none, "37 mid(0) without a guild", Check.STATE, () -> none.mid(0));
         c.refused(none, "38 lots(1, 1) without a guild", Check.STATE, () -> none.lots(1, 1));
-        for (SighGuild x : new SighGuild[] {none, g}) {
+        List<Supplier<SighGuild>> both = List.of(SighGuild::new, told);
+        for (Supplier<SighGuild> x : both) {
             for (int n : new int[] {-1, 3, Integer.MAX_VALUE, Integer.MIN_VALUE}) {
-                c.refused(x, "35 strike(" + n + ")", Check.BAD, () -> x.strike(n));
+                c.refused(x, "35 strike(" + n + ")", Check.BAD, g -> g.strike(n));
             }
             for (int p : WRONG_TWELFTHS) {
-                c.refused(x, "36 odds(0, " + p + ")", Check.BAD, () -> x.odds(0, p));
-                c.refused(x, "37 mid(" + p + ")", Check.BAD, () -> x.mid(p));
+                c.refused(x, "36 odds(0, " + p + ")", Check.BAD, g -> g.odds(0, p));
+                c.refused(x, "37 mid(" + p + ")", Check.BAD, g -> g.mid(p));
             }
             for (int v : new int[] {-1, 67, Integer.MAX_VALUE, Integer.MIN_VALUE}) {
-                c.refused(x, "36 odds(" + v + ", 1)", Check.BAD, () -> x.odds(v, 1));
+                c.refused(x, "36 odds(" + v + ", 1)", Check.BAD, g -> g.odds(v, 1));
             }
             for (int n : new int[] {-1, 0, 21, Integer.MAX_VALUE, Integer.MIN_VALUE}) {
-                c.refused(x, "38 lots(" + n + ", 1)", Check.BAD, () -> x.lots(n, 1));
+                c.refused(x, "38 lots(" + n + ", 1)", Check.BAD, g -> g.lots(n, 1));
             }
             for (int seed : new int[] {-1, 0, Integer.MAX_VALUE, Integer.MIN_VALUE}) {
-                c.refused(x, "38 lots(1, " + seed + ")", Check.BAD, () -> x.lots(1, seed));
+                c.refused(x, "38 lots(1, " + seed + ")", Check.BAD, g -> g.lots(1, seed));
             }
         }
     }

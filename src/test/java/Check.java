@@ -1,4 +1,6 @@
 import java.util.function.LongSupplier;
+import java.util.function.Supplier;
+import java.util.function.ToLongFunction;
 
 /** What the tests share: counting wrong answers, writing TEXTS, and seeing that a refusal changes nothing. */
 final class Check {
@@ -28,6 +30,12 @@ final class Check {
         String before = stateOf(g) + findingsOf(g, 0);
         due(call, answer.getAsLong(), want);
         same(call, stateOf(g) + findingsOf(g, 0), before);
+    }
+
+    /** On an object of its own: what the document promises ends with an object's 512th call. */
+    void refused(Supplier<SighGuild> state, String call, int want, ToLongFunction<SighGuild> answer) {
+        SighGuild g = state.get();
+        refused(g, call, want, () -> answer.applyAsLong(g));
     }
 
     void found(SighGuild g, String call, int finding, LongSupplier answer) {

@@ -23,8 +23,13 @@ final class DeedEdges {
 
     static void all(Edge e) {
         DeedEdges t = new DeedEdges(e);
-        e.says(Edge.TERMS, "All SIGHERS are at PLACE 0 at first, no ORDER is done, no GOLD.", t::atFirst);
+        e.says(Edge.TERMS, "======== 2 All SIGHERS are at PLACE 0 at first, no ORDER is done, no GOLD.", t::atFirst);
+        e.says(Edge.TERMS, "A SIGHER WALKS to a PLACE (as many steps as PLACES apart).", t::walksApart);
+        e.says(Edge.TERMS, "It SIGHS an ORDER that is not done: at the PLACE of the house, if it does such a DEPTH, and has "
+                + "as much BREATH as that TAKES", t::sighsOnlyIf);
+        e.says(Edge.TERMS, "BREATH is less by this, GOLD more by what it BRINGS.", t::sighsLessAndMore);
         e.says(Edge.TERMS, "It RESTS: BREATH is 2 more (9 at most).", t::restsTwoMore);
+        e.says(Edge.TERMS, "What is done: WALKING, SIGHING, RESTING.", t::whatIsDone);
         e.says(Edge.TERMS, "These are DEEDS 0, 1, .. (40 at most).", t::fortyDeeds);
         e.says(15, "A SIGHER WALKS to a PLACE: how many steps.", t::walkSteps);
         e.says(15, "BAD; STATE: it is there", t::walkBadThenState);
@@ -37,6 +42,7 @@ final class DeedEdges {
         e.says(17, "BAD; STATE: BREATH is 9", t::restBadThenState);
         e.says(17, "FULL. (FULL last.)", t::restFull);
         e.says(18, "DEEDS from number n on are undone: how many. BAD.", t::undo);
+        e.says(19, "The GUILD (as it is, DEEDS)", t::keepAsItIs);
         e.says(19, "is kept in a place (0 .. 2): how many DEEDS.", t::keepDeeds);
         e.says(19, "BAD; STATE: no SIGHERS.", t::keepRefused);
         e.says(20, "The GUILD is as it was kept: how many DEEDS.", t::onAsKept);
@@ -56,6 +62,66 @@ final class DeedEdges {
         e.due("done", g.count(4), 0);
     }
 
+    private void walksApart() {
+        for (int from = 0; from <= 9; from++) {
+            for (int to = 0; to <= 9; to++) {
+                SighGuild g = Edge.of("s50 d41 o555", x -> x.walk(0, 7)).get();
+                if (from > 0) {
+                    g.walk(1, from);
+                }
+                int steps = from > to ? from - to : to - from;
+                e.due("from " + from + " to " + to, g.walk(1, to), steps == 0 ? Check.STATE : steps);
+                e.told("there", g, g.sigher(1, 3), to);
+                e.told("not the other one", g, g.sigher(0, 3), 7);
+                e.due("no BREATH by it", g.count(5), 9);
+                e.due("no GOLD by it", g.count(3), 0);
+                e.due("nothing done by it", g.count(4), 0);
+            }
+        }
+    }
+
+    /** Each of what it needs is left out once. */
+    private void sighsOnlyIf() {
+        String[] due = {"s90 o359", "s50 o359", "d20 o359", "m20 o357", "p50 o359", "a30 o339", "f00 o399"};
+        int[] gold = {9, 9, 9, 9, 8, 9, 4};
+        for (int k = 0; k < due.length; k++) {
+            SighGuild g = Edge.of(due[k], x -> x.walk(0, 3)).get();
+            e.due("sigh(0, 0) of " + due[k], g.sigh(0, 0), gold[k]);
+            e.told("done", g, g.order(0, 3), 1);
+            e.refused("done, " + due[k], Edge.of(due[k], x -> x.walk(0, 3), x -> x.sigh(0, 0)), Check.STATE,
+                    x -> x.sigh(0, 0));
+            e.refused("elsewhere, " + due[k], Edge.of(due[k], x -> x.walk(0, 4)), Check.STATE, x -> x.sigh(0, 0));
+            e.refused("at first, " + due[k], Edge.of(due[k]), Check.STATE, x -> x.sigh(0, 0));
+        }
+        for (String deep : new String[] {"a90 o349", "p90 o379"}) {
+            e.refused("too deep, " + deep, Edge.of(deep, x -> x.walk(0, 3)), Check.STATE, x -> x.sigh(0, 0));
+        }
+        for (String weak : new String[] {"s40 o359", "d10 o359", "m10 o359", "p40 o359", "a20 o339"}) {
+            e.refused("weak, " + weak, Edge.of(weak, x -> x.walk(0, 3)), Check.SPENT, x -> x.sigh(0, 0));
+        }
+    }
+
+    private void sighsLessAndMore() {
+        for (char letter : "sdafmp".toCharArray()) {
+            int limit = letter == 'a' ? 3 : letter == 'p' ? 6 : 9;
+            for (int depth = 1; depth <= limit; depth++) {
+                int less = letter == 'f' ? 0 : letter == 'd' || letter == 'm' ? Math.max(1, depth / 2) : depth;
+                for (int gold = 0; gold <= 9; gold++) {
+                    int more = letter == 'f' ? gold / 2 : letter == 'm' ? gold + 2
+                            : letter == 'p' ? Math.max(0, gold - 1) : gold;
+                    SighGuild g = Check.guildOf("s50" + letter + "90 o015 o0" + depth + gold);
+                    g.sigh(0, 0);
+                    String of = letter + " of " + depth + " for " + gold;
+                    e.due("GOLD, " + of, g.sigh(1, 1), 5 + more);
+                    e.due("GOLD had, " + of, g.count(3), 5 + more);
+                    e.told("BREATH, " + of, g, g.sigher(1, 1), 9 - less);
+                    e.told("BREATH of the other, " + of, g, g.sigher(0, 1), 4);
+                    e.due("done, " + of, g.count(4), 3);
+                }
+            }
+        }
+    }
+
     private void restsTwoMore() {
         for (int breath = 0; breath <= 8; breath++) {
             SighGuild g = Check.guildOf("s" + breath + "0 o010");
@@ -63,6 +129,33 @@ final class DeedEdges {
             e.told("BREATH then", g, g.sigher(0, 1), Math.min(9, breath + 2));
             e.due("undo(0)", g.undo(0), 1);
             e.told("BREATH again", g, g.sigher(0, 1), breath);
+        }
+    }
+
+    private void whatIsDone() {
+        Supplier<SighGuild> two = Edge.of("s40 f00 o015 o324", g -> g.row(0, 2), g -> g.walk(1, 3), g -> g.keep(0));
+        SighGuild g = two.get();
+        e.due("a DEED ahead", g.count(2), 1);
+        g.walk(0, 5);
+        e.due("WALKING", g.count(2), 2);
+        g.sigh(1, 1);
+        e.due("SIGHING", g.count(2), 3);
+        g.rest(0);
+        e.due("RESTING", g.count(2), 4);
+        g.lots(3, 1);
+        e.due("all by LOTS", g.count(2), 7);
+        Edge.Call[] others = {x -> x.row(1, 3), x -> x.lay(0, 0, 1), x -> x.at(0, 0), x -> x.tear(0),
+            x -> x.copy(0, 0, 0, 1, 1), x -> x.mean(0), x -> x.text(1, 3), x -> x.put(0, 0, 1), x -> x.fault(0),
+            x -> x.sigher(0, 1), x -> x.order(0, 1), x -> x.mark(1, 3), x -> x.undo(1), x -> x.keep(1), x -> x.on(0),
+            x -> x.takes(0, 0), x -> x.brings(0, 0), x -> x.give(2), x -> x.most(2), SighGuild::plain,
+            x -> x.way(0, 3), x -> x.dusk(0, 30, 2), x -> x.hours(0, 3), x -> x.pairs(9), x -> x.choir(9),
+            x -> x.loose(0, 9, 9), x -> x.who(0), x -> x.kinds(0, 0), x -> x.breaths(0, 0), x -> x.strike(2),
+            x -> x.odds(1, 1), x -> x.mid(1), SighGuild::asked, x -> x.count(2), SighGuild::finding,
+            x -> x.findings(1)};
+        for (int k = 0; k < others.length; k++) {
+            SighGuild one = two.get();
+            others[k].by(one);
+            e.due("no DEED by another call, " + k, one.count(2), 1);
         }
     }
 
@@ -261,6 +354,37 @@ final class DeedEdges {
         kept.keep(1);
         e.due("undo(0)", kept.undo(0), 5);
         e.due("kept GUILDS stay", kept.on(1), 5);
+    }
+
+    private void keepAsItIs() {
+        Edge.Script deeds = g -> {
+            g.walk(1, 3);
+            g.sigh(0, 0);
+            g.rest(0);
+            g.sigh(1, 1);
+            g.walk(0, 4);
+        };
+        for (int k = 0; k < 3; k++) {
+            int place = k;
+            SighGuild twin = Edge.of("s40 f00 o015 o324", deeds).get();
+            SighGuild g = Edge.of("s40 f00 o015 o324", deeds, x -> x.keep(place)).get();
+            for (int what = 0; what < 10; what++) {
+                e.due("count(" + what + ") is not changed by it", g.count(what), twin.count(what));
+            }
+            g.undo(2);
+            g.walk(1, 9);
+            g.lots(9, 9);
+            e.due("on(" + k + ")", g.on(k), 5);
+            for (int what = 0; what < 10; what++) {
+                e.due("count(" + what + ") as kept", g.count(what), twin.count(what));
+            }
+            twin.keep(k);
+            for (int n = 5; n >= 0; n--) {
+                g.undo(n);
+                twin.undo(n);
+                e.due("its DEEDS as kept, behind " + n, g.digest(), twin.digest());
+            }
+        }
     }
 
     private void keepDeeds() {

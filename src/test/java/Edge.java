@@ -10,17 +10,18 @@ import java.util.regex.Matcher;
 import java.util.regex.Pattern;
 
 /**
- * What the tests of boundary cases share. Each test stands under the document's own words, which are looked up in
- * the document; at the end every word there that names a boundary must stand under a test.
+ * What the tests of the document share. Each test stands under the document's own words, which are looked up in
+ * the document; at the end every word there, from its first line to its last, must stand under a test.
  */
 final class Edge {
     static final int TERMS = 0;
     static final int PROMISES = 45;
-    /** The part "What it is", which tells how often an object is used. */
-    static final int HEAD = PROMISES + 1;
-    private static final Pattern BOUNDARY = Pattern.compile("\\b(BAD|FULL|STATE|SPENT|FINDING|NONE|NOTHING|BEYOND|UNLIKE"
-            + "|NOUGHT|SIZE)\\b|\\.\\.| to \\d|\\b(above|below|at most|at least|at first|missing|anew|cut|last|latest|before"
-            + "|too|behind|none|nothing|fewest|alone|modulo|least|greatest|most|also|perhaps|either|no)\\b");
+    /** The parts "What it is", "The public face", "Not promised". */
+    static final int HEAD = PROMISES + 1, FACE = PROMISES + 2, FREE = PROMISES + 3;
+    private static final int PARTS = FREE + 1;
+    private static final Pattern WORD = Pattern.compile("\\w+|\\.\\.");
+    /** Names of calls, which FACE holds against the class, and the signs that frame a listing. */
+    private static final Pattern FRAME = Pattern.compile("(?m)^```.*$|`[^`\\n]*`");
 
     /** One call, or one call by a number that is tried. */
     interface Call {
@@ -36,39 +37,43 @@ final class Edge {
     }
 
     final Check c = new Check();
-    private final String[] parts = new String[HEAD + 1];
-    private final boolean[][] quoted = new boolean[HEAD + 1][];
+    final String document;
+    private final String[] parts = new String[PARTS];
+    private final boolean[][] quoted = new boolean[PARTS][];
     private String about = "";
 
     Edge(Path document) throws IOException {
-        String all = Files.readString(document);
-        parts[TERMS] = partOf(all, "## Terms\n");
+        this.document = Files.readString(document);
+        parts[TERMS] = partOf("Terms");
         for (int p = 1; p <= PROMISES; p++) {
-            parts[p] = partOf(all, "## Promise " + p + ":");
+            parts[p] = partOf("Promise " + p + ":");
         }
-        parts[HEAD] = partOf(all, "## What it is\n");
-        for (int p = 0; p <= HEAD; p++) {
+        parts[HEAD] = partOf("What it is");
+        parts[FACE] = partOf("The public face");
+        parts[FREE] = partOf("Not promised");
+        Matcher headings = Pattern.compile("(?m)^## ").matcher(this.document);
+        c.due("parts of the document", headings.results().count(), PARTS);
+        for (int p = 0; p < PARTS; p++) {
             quoted[p] = new boolean[parts[p].length()];
-            quoteNames(p);
+            Matcher m = FRAME.matcher(parts[p]);
+            while (m.find()) {
+                Arrays.fill(quoted[p], m.start(), m.end(), true);
+            }
         }
     }
 
-    private static String partOf(String all, String heading) {
-        int from = all.indexOf(heading);
+    private String partOf(String heading) {
+        int from = document.indexOf("\n## " + heading);
         if (from < 0) {
             throw new IllegalArgumentException("the document has no " + heading);
         }
-        int end = all.indexOf("\n## ", from);
-        int body = all.indexOf('\n', from);
-        return all.substring(body, end < 0 ? all.length() : end);
+        int body = document.indexOf('\n', from + 1);
+        int end = document.indexOf("\n## ", body);
+        return document.substring(body, end < 0 ? document.length() : end);
     }
 
-    /** Names of calls are no boundaries, whatever words they bear. */
-    private void quoteNames(int p) {
-        Matcher m = Pattern.compile("`[^`\\n]*`").matcher(parts[p]);
-        while (m.find()) {
-            Arrays.fill(quoted[p], m.start(), m.end(), true);
-        }
+    String part(int p) {
+        return parts[p];
     }
 
     /** A test of what the document's part says in these words. */
@@ -84,15 +89,24 @@ final class Edge {
     }
 
     void end(String name) {
-        for (int p = 0; p <= PROMISES; p++) {
-            Matcher m = BOUNDARY.matcher(parts[p]);
+        for (int p = 0; p < PARTS; p++) {
+            Matcher m = WORD.matcher(parts[p]);
             while (m.find()) {
-                String near = parts[p].substring(Math.max(0, m.start() - 40), Math.min(parts[p].length(), m.end() + 20)).replace('\n', ' ');
-                c.due("promise " + p + " has a test of '" + m.group() + "' in '" + near + "'",
-                        quoted[p][m.start()] ? 1 : 0, 1);
+                String near = parts[p].substring(Math.max(0, m.start() - 40), Math.min(parts[p].length(), m.end() + 20))
+                        .replace('\n', ' ');
+                c.due("part " + p + " has a test of '" + m.group() + "' in '" + near + "'",
+                        isQuoted(p, m.start(), m.end()) ? 1 : 0, 1);
             }
         }
         c.end(name);
+    }
+
+    private boolean isQuoted(int p, int from, int to) {
+        boolean all = true;
+        for (int k = from; k < to; k++) {
+            all &= quoted[p][k];
+        }
+        return all;
     }
 
     void due(String call, long got, long want) {

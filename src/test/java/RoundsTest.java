@@ -1,3 +1,5 @@
+import java.util.function.Supplier;
+
 /** Promises 26 to 28. */
 public final class RoundsTest {
     private static final Check c = new Check();
@@ -118,21 +120,21 @@ public final class RoundsTest {
         c.refused(none, "26 way(0, 0) without a guild", Check.BAD, () -> none.way(0, 0));
         c.refused(none, "27 dusk(0, 0, 0) without a guild", Check.BAD, () -> none.dusk(0, 0, 0));
         c.refused(none, "28 hours(0, 0) without a guild", Check.BAD, () -> none.hours(0, 0));
-        SighGuild g = Check.guildOf(STREET);
+        Supplier<SighGuild> street = Edge.of(STREET);
         for (int i : new int[] {-1, 2, Integer.MAX_VALUE, Integer.MIN_VALUE}) {
-            c.refused(g, "26 way(" + i + ", 0)", Check.BAD, () -> g.way(i, 0));
-            c.refused(g, "27 dusk(" + i + ", 0, 0)", Check.BAD, () -> g.dusk(i, 0, 0));
-            c.refused(g, "28 hours(" + i + ", 0)", Check.BAD, () -> g.hours(i, 0));
+            c.refused(street, "26 way(" + i + ", 0)", Check.BAD, g -> g.way(i, 0));
+            c.refused(street, "27 dusk(" + i + ", 0, 0)", Check.BAD, g -> g.dusk(i, 0, 0));
+            c.refused(street, "28 hours(" + i + ", 0)", Check.BAD, g -> g.hours(i, 0));
         }
         for (int set : new int[] {-1, 32, 33, Integer.MAX_VALUE, Integer.MIN_VALUE}) {
-            c.refused(g, "26 way(0, " + set + ")", Check.BAD, () -> g.way(0, set));
-            c.refused(g, "28 hours(0, " + set + ")", Check.BAD, () -> g.hours(0, set));
+            c.refused(street, "26 way(0, " + set + ")", Check.BAD, g -> g.way(0, set));
+            c.refused(street, "28 hours(0, " + set + ")", Check.BAD, g -> g.hours(0, set));
         }
         for (int n : new int[] {-1, 31, Integer.MAX_VALUE, Integer.MIN_VALUE}) {
-            c.refused(g, "27 dusk(0, " + n + ", 0)", Check.BAD, () -> g.dusk(0, n, 0));
+            c.refused(street, "27 dusk(0, " + n + ", 0)", Check.BAD, g -> g.dusk(0, n, 0));
         }
         for (int r : new int[] {-1, 6, Integer.MAX_VALUE, Integer.MIN_VALUE}) {
-            c.refused(g, "27 dusk(0, 5, " + r + ")", Check.BAD, () -> g.dusk(0, 5, r));
+            c.refused(street, "27 dusk(0, 5, " + r + ")", Check.BAD, g -> g.dusk(0, 5, r));
         }
     }
 }

@@ -3,6 +3,7 @@ import java.util.function.Supplier;
 /** The boundary cases of promises 12 to 14, 21, 22, and of what the Terms say of KINDS and of what a SIGHER CAN. */
 final class SigherEdges {
     private static final String LETTERS = "sdafmp";
+    private static final String TABLE = " o012 o323 o534 o745 o956 o167";
     private static final Supplier<SighGuild> ONE = Edge.of("d41 o935");
     private static final Supplier<SighGuild> MOST = Edge.of("s10 d21 a32 f43 m54 o012 o123 o234 o345 o456 o567");
     private final Edge e;
@@ -14,20 +15,23 @@ final class SigherEdges {
     static void all(Edge e) {
         SigherEdges t = new SigherEdges(e);
         t.kinds();
-        e.says(12, "0 the KIND, 1 BREATH now, 2 TUNE, 3 the PLACE, 4 ORDERS (bits) that it CAN do, told by asked(): 1.",
-                t::sigherTells);
+        e.says(12, "Of a SIGHER: 0 the KIND, 1 BREATH now, 2 TUNE, 3 the PLACE, 4 ORDERS (bits) that it CAN do, "
+                + "told by asked(): 1.", t::sigherTells);
         e.says(12, "BAD.", t::sigherBad);
-        e.says(13, "0 the PLACE, 1 DEPTH, 2 what it BRINGS as told, 3 whether it is done (1, 0), "
+        e.says(13, "Of an ORDER: 0 the PLACE, 1 DEPTH, 2 what it BRINGS as told, 3 whether it is done (1, 0), "
                 + "4 SIGHERS (bits) who CAN do it, told by asked(): 1.", t::orderTells);
         e.says(13, "BAD.", t::orderBad);
+        e.says(14, "What a SIGHER that IS of a KIND tells", t::markIsOfKind);
         e.says(14, "a DEEP one (MASTER, too) how much BREATH all ORDERS would TAKE less than of a SIGHER", t::markDeep);
         e.says(14, "an APPRENTICE (POET, too) how many ORDERS are too deep", t::markApprentice);
         e.says(14, "a FORGER how much GOLD all ORDERS would BRING less than by a SIGHER", t::markForger);
         e.says(14, "a MASTER how many ORDERS are not done", t::markMaster);
         e.says(14, "a POET how many are too deep for an APPRENTICE, but not for it", t::markPoet);
         e.says(14, "BAD: also KIND 0; UNLIKE.", t::markRefused);
+        e.says(21, "How much BREATH an ORDER TAKES of a SIGHER", t::takesOfEach);
         e.says(21, "(done, or not; NONE: too deep)", t::takesDoneOrTooDeep);
         e.says(21, "BAD.", t::takesBad);
+        e.says(22, "What it BRINGS by it", t::bringsByEach);
         e.says(22, "(too deep, done, or not)", t::bringsAlways);
         e.says(22, "BAD.", t::bringsBad);
     }
@@ -158,6 +162,20 @@ final class SigherEdges {
         e.due("asked()", g.asked(), 0);
     }
 
+    /** What each KIND tells of itself as each KIND; FINDING where it is none of it. */
+    private void markIsOfKind() {
+        int no = Check.FINDING;
+        int[][] due = {{no, no, no, no, no}, {5, no, no, no, no}, {no, 1, no, no, no}, {no, no, 5, no, no},
+            {5, no, no, 2, no}, {no, 0, no, no, 1}};
+        for (int kind = 0; kind < 6; kind++) {
+            for (int as = 1; as <= 5; as++) {
+                SighGuild g = Check.guildOf("f00" + LETTERS.charAt(kind) + "00 o059 o030");
+                e.due(LETTERS.charAt(kind) + " as " + as, g.mark(1, as), due[kind][as - 1]);
+                e.due("finding()", g.finding(), due[kind][as - 1] == no ? Check.UNLIKE : 0);
+            }
+        }
+    }
+
     private void markDeep() {
         for (String letter : new String[] {"d", "m"}) {
             mark(letter + "00 o010", 1, 0);
@@ -236,6 +254,34 @@ final class SigherEdges {
         }
         e.limits("mark(i, 4) of five", Edge.of("m10m10m10m10m10o111o111"), (g, i) -> g.mark(i, 4), 0, 4, i -> 2);
         e.limits("mark(i, 1) of none", SighGuild::new, (g, i) -> g.mark(i, 1), 0, -1, i -> 0);
+    }
+
+    private void takesOfEach() {
+        int no = Check.NONE;
+        int[][] due = {{1, 2, 3, 4, 5, 6}, {1, 1, 1, 2, 2, 3}, {1, 2, 3, no, no, no}, {0, 0, 0, 0, 0, 0},
+            {1, 1, 1, 2, 2, 3}, {1, 2, 3, 4, 5, 6}};
+        for (int kind = 0; kind < 6; kind++) {
+            for (int o = 0; o < 6; o++) {
+                SighGuild g = Check.guildOf("f00 " + LETTERS.charAt(kind) + "19" + TABLE);
+                e.due(LETTERS.charAt(kind) + " of " + o, g.takes(1, o), due[kind][o]);
+                e.due("f of " + o, g.takes(0, o), 0);
+                g.walk(1, 9);
+                g.rest(1);
+                e.due(LETTERS.charAt(kind) + " of " + o + ", wherever it is", g.takes(1, o), due[kind][o]);
+            }
+        }
+    }
+
+    private void bringsByEach() {
+        int[][] due = {{2, 3, 4, 5, 6, 7}, {2, 3, 4, 5, 6, 7}, {2, 3, 4, 5, 6, 7}, {1, 1, 2, 2, 3, 3},
+            {4, 5, 6, 7, 8, 9}, {1, 2, 3, 4, 5, 6}};
+        for (int kind = 0; kind < 6; kind++) {
+            for (int o = 0; o < 6; o++) {
+                SighGuild g = Check.guildOf("f00 " + LETTERS.charAt(kind) + "19" + TABLE);
+                e.due(LETTERS.charAt(kind) + " by " + o, g.brings(1, o), due[kind][o]);
+                e.due("f by " + o, g.brings(0, o), due[3][o]);
+            }
+        }
     }
 
     private void takesDoneOrTooDeep() {

@@ -1,3 +1,5 @@
+import java.util.function.Supplier;
+
 /** Promises 12 to 14, 21, 22. */
 public final class SighersTest {
     private static final Check c = new Check();
@@ -110,27 +112,27 @@ public final class SighersTest {
 
     private static void refusals() {
         SighGuild none = new SighGuild();
-        SighGuild g = Check.guildOf("d41 f02 o210 o471 o935");
+        Supplier<SighGuild> two = Edge.of("d41 f02 o210 o471 o935");
         c.refused(none, "21 takes(0, 0) without a guild", Check.BAD, () -> none.takes(0, 0));
         c.refused(none, "22 brings(0, 0) without a guild", Check.BAD, () -> none.brings(0, 0));
         c.refused(none, "14 mark(0, 1) without a guild", Check.BAD, () -> none.mark(0, 1));
         for (int i : new int[] {-1, 2, 5, Integer.MAX_VALUE, Integer.MIN_VALUE}) {
-            c.refused(g, "12 sigher(" + i + ", 0)", Check.BAD, () -> g.sigher(i, 0));
-            c.refused(g, "14 mark(" + i + ", 1)", Check.BAD, () -> g.mark(i, 1));
-            c.refused(g, "21 takes(" + i + ", 0)", Check.BAD, () -> g.takes(i, 0));
-            c.refused(g, "22 brings(" + i + ", 0)", Check.BAD, () -> g.brings(i, 0));
+            c.refused(two, "12 sigher(" + i + ", 0)", Check.BAD, g -> g.sigher(i, 0));
+            c.refused(two, "14 mark(" + i + ", 1)", Check.BAD, g -> g.mark(i, 1));
+            c.refused(two, "21 takes(" + i + ", 0)", Check.BAD, g -> g.takes(i, 0));
+            c.refused(two, "22 brings(" + i + ", 0)", Check.BAD, g -> g.brings(i, 0));
         }
         for (int o : new int[] {-1, 3, 6, Integer.MAX_VALUE, Integer.MIN_VALUE}) {
-            c.refused(g, "13 order(" + o + ", 0)", Check.BAD, () -> g.order(o, 0));
-            c.refused(g, "21 takes(0, " + o + ")", Check.BAD, () -> g.takes(0, o));
-            c.refused(g, "22 brings(0, " + o + ")", Check.BAD, () -> g.brings(0, o));
+            c.refused(two, "13 order(" + o + ", 0)", Check.BAD, g -> g.order(o, 0));
+            c.refused(two, "21 takes(0, " + o + ")", Check.BAD, g -> g.takes(0, o));
+            c.refused(two, "22 brings(0, " + o + ")", Check.BAD, g -> g.brings(0, o));
         }
         for (int what : new int[] {-1, 5, Integer.MAX_VALUE, Integer.MIN_VALUE}) {
-            c.refused(g, "12 sigher(0, " + what + ")", Check.BAD, () -> g.sigher(0, what));
-            c.refused(g, "13 order(0, " + what + ")", Check.BAD, () -> g.order(0, what));
+            c.refused(two, "12 sigher(0, " + what + ")", Check.BAD, g -> g.sigher(0, what));
+            c.refused(two, "13 order(0, " + what + ")", Check.BAD, g -> g.order(0, what));
         }
         for (int kind : new int[] {-1, 0, 6, Integer.MAX_VALUE, Integer.MIN_VALUE}) {
-            c.refused(g, "14 mark(0, " + kind + ")", Check.BAD, () -> g.mark(0, kind));
+            c.refused(two, "14 mark(0, " + kind + ")", Check.BAD, g -> g.mark(0, kind));
         }
     }
 }

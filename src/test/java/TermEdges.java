@@ -58,13 +58,13 @@ final class TermEdges {
                 + "which), unless a call says so otherwise.", t::order);
         e.says(Edge.TERMS, "NONE -9.", t::none);
         e.says(Edge.TERMS, "What is refused changes nothing but finding(), findings().", t::changesNothing);
-        e.says(Edge.TERMS, "1 NOTHING (a ROW, a TEXT, a kept GUILD that is missing)", t::nothing);
+        e.says(Edge.TERMS, "FINDINGS: 1 NOTHING (a ROW, a TEXT, a kept GUILD that is missing)", t::nothing);
         e.says(Edge.TERMS, "2 BEYOND (a place of a ROW, a TEXT that there is not)", t::beyond);
         e.says(Edge.TERMS, "3 UNLIKE (a SIGHER of another KIND; a number that is none)", t::unlike);
         e.says(Edge.TERMS, "4 NOUGHT (shared among none)", t::nought);
         e.says(Edge.TERMS, "5 SIZE (fewer than none; too many, not as many as due)", t::size);
         e.says(Edge.TERMS, "Sets (of SIGHERS, of ORDERS, of KINDS, of BREATHS) are told by bits.", t::bits);
-        e.says(Edge.TERMS, "ROWS 0 .. 5 are rows of 0 to 40 ints, TEXTS 0 .. 3 rows of 0 to 60 bytes, "
+        e.says(Edge.TERMS, "======== 1 ROWS 0 .. 5 are rows of 0 to 40 ints, TEXTS 0 .. 3 rows of 0 to 60 bytes, "
                 + "or missing (at first).", t::rowsAndTexts);
     }
 

@@ -24,13 +24,14 @@ final class TextEdges {
         e.says(10, "A FAULT of a TEXT; NONE: there is none.", t::faultOrNone);
         e.says(10, "BAD; NOTHING.", t::faultRefused);
         t.language();
+        e.says(11, "A GUILD by a TEXT", t::guildByText);
         e.says(11, "(anew: all at PLACE 0, nothing done, no GOLD, no DEEDS; kept GUILDS go)", t::guildAnew);
         e.says(11, "how many ORDERS.", t::guildTellsOrders);
         e.says(11, "BAD; NOTHING; STATE: a FAULT. (STATE behind NOTHING.)", t::guildRefused);
     }
 
     private void language() {
-        e.says(Edge.TERMS, "A GUILD (without SIGHERS, ORDERS at first)", this::noneAtFirst);
+        e.says(Edge.TERMS, "A GUILD (without SIGHERS, ORDERS at first) is a TEXT", this::noneAtFirst);
         e.says(Edge.TERMS, "blanks (32) ahead, between, behind as many as wanted", this::blanks);
         e.says(Edge.TERMS, "none within items", this::blanksWithin);
         e.says(Edge.TERMS, "First SIGHERS (1 to 5; 0, 1, .. as they come)", this::howManySighers);
@@ -38,15 +39,15 @@ final class TextEdges {
         e.says(Edge.TERMS, "Then ORDERS (1 to 6; 0, 1, .. as they come)", this::howManyOrders);
         e.says(Edge.TERMS, "o (111), the PLACE of the house in the street (0 .. 9), DEPTH (1 .. 9), "
                 + "what it BRINGS (0 .. 9), one figure each", this::orderFigures);
-        e.says(Edge.TERMS, "the first place at which it can't go on so", this::firstPlace);
+        e.says(Edge.TERMS, "A FAULT is the first place at which it can't go on so", this::firstPlace);
         e.says(Edge.TERMS, "a letter, a figure that is none such", this::everySign);
         e.says(Edge.TERMS, "an ORDER ahead of all SIGHERS", this::orderAhead);
         e.says(Edge.TERMS, "a SIGHER behind an ORDER", this::sigherBehind);
         e.says(Edge.TERMS, "a sixth SIGHER, a seventh ORDER: its place", this::oneTooMany);
         e.says(Edge.TERMS, "the TEXT's size, if its end comes too early", this::endsEarly);
         e.says(Edge.TERMS, "or there are blanks alone", this::blanksAlone);
-        e.says(Edge.TERMS, "0 SIGHER (s, 115), 1 DEEP (d, 100; a SIGHER), 2 APPRENTICE (a, 97; a SIGHER), "
-                + "3 FORGER (f, 102; a SIGHER), 4 MASTER (m, 109; a DEEP), 5 POET (p, 112; an APPRENTICE)", this::letters);
+        e.says(Edge.TERMS, "KINDS of SIGHERS and letters: 0 SIGHER (s, 115), 1 DEEP (d, 100; a SIGHER), "
+                + "2 APPRENTICE (a, 97; a SIGHER), 3 FORGER (f, 102; a SIGHER), 4 MASTER (m, 109; a DEEP), 5 POET (p, 112; an APPRENTICE)", this::letters);
     }
 
     private void textAnew() {
@@ -399,6 +400,32 @@ final class TextEdges {
         for (char no : new char[] {'r', 't', 'c', 'e', '`', 'b', 'g', 'l', 'n', 'q', 'S', 'D', 'A', 'F', 'M', 'P'}) {
             fault(no + "00o010", 0);
         }
+    }
+
+    private void guildByText() {
+        String[] texts = {"d41 o935", "a32f43 o113", " m05 o212 o321", "p99s10d11o444o555o666"};
+        int[][] sighers = {{1, 4, 1}, {2, 3, 2}, {4, 0, 5}, {5, 9, 9}};
+        int[][] orders = {{9, 3, 5}, {1, 1, 3}, {2, 1, 2}, {4, 4, 4}};
+        int[] manyOrders = {1, 1, 2, 3};
+        SighGuild g = new SighGuild();
+        for (int t = 0; t < 4; t++) {
+            Check.write(g, t, texts[t]);
+        }
+        for (int t : new int[] {2, 0, 3, 1, 1}) {
+            e.due("guild(" + t + ")", g.guild(t), manyOrders[t]);
+            for (int what = 0; what < 3; what++) {
+                e.told("its SIGHER, " + what, g, g.sigher(0, what), sighers[t][what]);
+                e.told("its ORDER, " + what, g, g.order(0, what), orders[t][what]);
+            }
+            for (int k = 0; k < texts[t].length(); k++) {
+                e.due("the TEXT stays, " + k, g.put(t, k, texts[t].charAt(k)), 1000 + texts[t].charAt(k));
+            }
+        }
+        Check.write(g, 1, texts[3]);
+        e.told("the GUILD stays, if its TEXT is another one: the KIND", g, g.sigher(0, 0), 2);
+        e.due("its SIGHERS", g.count(0), 2);
+        e.due("till it is made anew", g.guild(1), 3);
+        e.told("the KIND then", g, g.sigher(0, 0), 5);
     }
 
     private void guildAnew() {

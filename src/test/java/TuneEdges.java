@@ -11,7 +11,7 @@ final class TuneEdges {
 
     static void all(Edge e) {
         TuneEdges t = new TuneEdges(e);
-        e.says(29, "in tune (TUNES no more than t (0 .. 9) apart)", t::apart);
+        e.says(29, "How many pairs of SIGHERS are in tune (TUNES no more than t (0 .. 9) apart)", t::apart);
         e.says(29, "the first by asked() (5 times the lesser, and the other; NONE)", t::firstPair);
         e.says(29, "BAD.", t::pairsBad);
         e.says(30, "The set of most SIGHERS of whom any two are in tune", t::mostSighers);

@@ -1,7 +1,9 @@
+import java.util.function.Supplier;
+
 /** Promises 32 to 34. */
 public final class WhoTest {
     private static final Check c = new Check();
-    private static final SighGuild g = Check.guildOf(SighersTest.FIVE);
+    private static SighGuild g = Check.guildOf(SighersTest.FIVE);
 
     public static void main(String[] args) {
         pairs();
@@ -81,6 +83,7 @@ public final class WhoTest {
     }
 
     private static void wrong(String what, int finding, int... ints) {
+        g = Check.guildOf(SighersTest.FIVE);
         Check.lay(g, 2, ints);
         c.found(g, "32 who of " + what, finding, () -> g.who(2));
         c.found(g, "33 kinds of " + what, finding, () -> g.kinds(0, 2));
@@ -103,14 +106,15 @@ public final class WhoTest {
         c.found(g, "32 who(3)", Check.NOTHING, () -> g.who(3));
         c.found(g, "33 kinds(4, 3)", Check.NOTHING, () -> g.kinds(4, 3));
         c.found(g, "34 breaths(4, 3)", Check.NOTHING, () -> g.breaths(4, 3));
+        Supplier<SighGuild> five = Edge.of(SighersTest.FIVE);
         for (int r : new int[] {-1, 6, Integer.MAX_VALUE, Integer.MIN_VALUE}) {
-            c.refused(g, "32 who(" + r + ")", Check.BAD, () -> g.who(r));
-            c.refused(g, "33 kinds(0, " + r + ")", Check.BAD, () -> g.kinds(0, r));
-            c.refused(g, "34 breaths(0, " + r + ")", Check.BAD, () -> g.breaths(0, r));
+            c.refused(five, "32 who(" + r + ")", Check.BAD, x -> x.who(r));
+            c.refused(five, "33 kinds(0, " + r + ")", Check.BAD, x -> x.kinds(0, r));
+            c.refused(five, "34 breaths(0, " + r + ")", Check.BAD, x -> x.breaths(0, r));
         }
         for (int i : new int[] {-1, 5, Integer.MAX_VALUE, Integer.MIN_VALUE}) {
-            c.refused(g, "33 kinds(" + i + ", 3)", Check.BAD, () -> g.kinds(i, 3));
-            c.refused(g, "34 breaths(" + i + ", 3)", Check.BAD, () -> g.breaths(i, 3));
+            c.refused(five, "33 kinds(" + i + ", 3)", Check.BAD, x -> x.kinds(i, 3));
+            c.refused(five, "34 breaths(" + i + ", 3)", Check.BAD, x -> x.breaths(i, 3));
         }
         SighGuild none = new SighGuild();
         none.row(0, 0);

@@ -11,8 +11,8 @@ public final class WildTest {
     /** For copy(), whose five numbers would make too many mixtures of all. */
     private static final int[] FEWER = {Integer.MIN_VALUE, -1, 0, 1, 4, 5, 6, 40, Integer.MAX_VALUE};
     private static final String[] STATES = {"", "s90 o019", "d41 f02 p72 a36 m19 o210 o471 o935 o093 o064 o558"};
-    /** No object is used for more than 512 calls; each is seen by two, its making takes up to 150. */
-    private static final int USES = 110;
+    /** What the document promises ends with an object's 512th call: each use takes 4, its making up to 110. */
+    private static final int USES = 100;
 
     private final Check c = new Check();
     private final String text;

@@ -1,10 +1,11 @@
 import java.io.IOException;
 import java.nio.file.Path;
 
-/** Every sentence of the document that names a boundary case, under its own words. */
-public final class EdgesTest {
+/** Every sentence of the document, from its first line to its last, each under its own words. */
+public final class DocumentTest {
     public static void main(String[] args) throws IOException {
         Edge e = new Edge(Path.of(args.length > 1 ? args[1] : "../shared/DOC.md"));
+        Sentences.all(e);
         TermEdges.all(e);
         RowEdges.all(e);
         TextEdges.all(e);
@@ -16,6 +17,7 @@ public final class EdgesTest {
         WhoEdges.all(e);
         ChanceEdges.all(e);
         ToldEdges.all(e);
-        e.end("EdgesTest");
+        Changes.all(e);
+        e.end("DocumentTest");
     }
 }
