@@ -231,6 +231,7 @@ final class Changes {
         only("hashCode()", g -> g.hashCode() & 1);
     }
 
+    /** An evening as it is heard, with something else between its calls. */
     private static long evening(SighGuild g, Runnable between) {
         long heard = 0;
         for (int k = 1; k <= 6; k++) {
@@ -238,9 +239,11 @@ final class Changes {
             between.run();
             heard = 31 * heard + g.give(k - 1) + g.plain() + g.strike(2);
             between.run();
-            heard = 31 * heard + g.dusk(k % 5, 20, k % 6) + g.odds(4, k) + g.upper() + g.lower();
+            heard = 31 * heard + g.asked() + g.dusk(k % 5, 20, k % 6) + g.odds(4, k);
             between.run();
-            heard = 31 * heard + g.keep(k % 3) + g.at(5, k) + g.finding() + g.findings(2) + g.digest();
+            heard = 31 * heard + g.upper() + g.lower() + g.keep(k % 3) + g.at(5, k);
+            between.run();
+            heard = 31 * heard + g.finding() + g.findings(2) + g.digest();
         }
         return heard;
     }
